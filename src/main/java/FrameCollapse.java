@@ -373,7 +373,7 @@ public final class FrameCollapse {
         return motions.looseness() > 0;
     }
 
-    /** Each bar brings two moments and an axial force; as many equations depend on others as there are loose motions. */
+    /** Each bar brings two moments and an axial force; each loose motion makes one equation depend on others. */
     private int selfStressCount() {
         return 3 * frame.bars - (frame.freedoms() - motions.looseness());
     }
@@ -624,9 +624,9 @@ public final class FrameCollapse {
      * nodes joined by bars in its direction have in common. Rows are integers without a common divisor.
      *
      * No number here is too great: every row that arises vanishes at as many ends as it has basis rows in it less one,
-     * so by Cramer's rule its entries are minors. The columns of the shifts are those of a directed graph, whose minors are
-     * 0, 1 or -1, and the up to seven columns of turns have 12 entries of at most 4: so the shifts and turns are at most
-     * 32 * 4^7, the entries below 20,000,000 (UNIT * 3 times as much), and products of two of them far from 2^63.
+     * so by Cramer's rule its entries are minors. The columns of the shifts are those of a directed graph, whose minors
+     * are 0, 1 or -1, and the up to seven columns of turns have 12 entries of at most 4: so shifts and turns are at
+     * most 32 * 4^7, the entries below 20,000,000 (UNIT * 3 times as much), and products of two of them far from 2^63.
      */
     private static final class Motions {
         /** Divisible by all lengths, so that the twists of the first basis are integers. */

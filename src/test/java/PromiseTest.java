@@ -88,6 +88,20 @@ public final class PromiseTest {
         return frame;
     }
 
+    /** Seven free nodes; six bars join the first four of them, which are in a row, each with each. */
+    private static FrameCollapse looseRow() {
+        FrameCollapse frame = new FrameCollapse();
+        for (int n = 0; n < 7; n++) {
+            frame.node(n < 4 ? n : n + 2, 0, 0);
+        }
+        for (int n = 0; n < 4; n++) {
+            for (int to = n + 1; to < 4; to++) {
+                frame.bar(n, to, 1);
+            }
+        }
+        return frame;
+    }
+
     // ---- the frame
 
     private static void newObject() {
@@ -227,6 +241,15 @@ public final class PromiseTest {
         due("load the last with zeros", frame.load(1, 3, 0, 0), 0);
         due("case 2 stays", frame.load(2, 1, 0, 0), 1);
         due("case 0", frame.load(0, 1, 5, 0), 1);
+        for (int c = 0; c < 3; c++) {
+            FrameCollapse other = new FrameCollapse();
+            other.node(0, 0, 0);
+            other.node(1, 0, 0);
+            due("only upward", other.load(c, 0, 0, 1), 1);
+            due("only to the right", other.load(c, 1, 1, 0), 2);
+            due("none of another case", other.load((c + 1) % 3, 0, 0, 0), 0);
+            due("none of the third case", other.load((c + 2) % 3, 1, 0, 0), 0);
+        }
     }
 
     private static void propertiesOfNode() {
@@ -279,6 +302,10 @@ public final class PromiseTest {
         due("self stresses of a bar between fixed nodes", frame.count(4), 3);
         due("no motion, not loose", frame.count(2), 0);
         due("no motion, no mechanism", frame.count(5), 0);
+        frame = looseRow();
+        due("motions of seven free nodes", frame.count(3), 18);
+        due("self stresses of six bars in a row", frame.count(4), 9);
+        frame = loose();
         for (int n = 0; n < 3; n++) {
             frame.hold(n, 1);
         }
