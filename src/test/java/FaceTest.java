@@ -43,6 +43,10 @@ public final class FaceTest {
         for (Field field : face.getDeclaredFields()) {
             if (!Modifier.isPrivate(field.getModifiers()) && !field.isSynthetic()) {
                 constants.add(field.getName());
+                Check.due(field + " is a public constant", field.getModifiers(),
+                    Modifier.PUBLIC | Modifier.STATIC | Modifier.FINAL);
+                Check.due(field + " is an int, GONE a long", field.getType() == long.class ? 1 : 0,
+                    field.getName().equals("GONE") ? 1 : 0);
             }
         }
         Check.due("constants " + constants, constants.equals(FIELDS) ? 1 : 0, 1);

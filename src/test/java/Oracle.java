@@ -16,26 +16,39 @@ final class Oracle {
     final List<Ratio[]> twists;
 
     Oracle(FrameCollapse frame) {
-        nodes = frame.count(0);
-        bars = frame.count(1);
+        this(rowsOf(frame, true), rowsOf(frame, false));
+    }
+
+    /** Rows as ofNode and ofBar tell them. */
+    Oracle(int[][] nodeRows, int[][] barRows) {
+        nodes = nodeRows.length;
+        bars = barRows.length;
         ends = 2 * bars;
-        node = new int[nodes][9];
-        bar = new int[bars][5];
-        for (int n = 0; n < nodes; n++) {
-            for (int k = 0; k < 9; k++) {
-                node[n][k] = frame.ofNode(n, k);
-            }
-        }
-        for (int b = 0; b < bars; b++) {
-            for (int k = 0; k < 5; k++) {
-                bar[b][k] = frame.ofBar(b, k);
-            }
-        }
+        node = copyOf(nodeRows);
+        bar = copyOf(barRows);
         motions = kernel(conditions(), 3 * nodes);
         twists = new ArrayList<>();
         for (Ratio[] motion : motions) {
             twists.add(twistsOf(motion));
         }
+    }
+
+    private static int[][] rowsOf(FrameCollapse frame, boolean ofNodes) {
+        int[][] rows = ofNodes ? new int[frame.count(0)][9] : new int[frame.count(1)][5];
+        for (int i = 0; i < rows.length; i++) {
+            for (int k = 0; k < rows[i].length; k++) {
+                rows[i][k] = ofNodes ? frame.ofNode(i, k) : frame.ofBar(i, k);
+            }
+        }
+        return rows;
+    }
+
+    private static int[][] copyOf(int[][] rows) {
+        int[][] copy = new int[rows.length][];
+        for (int i = 0; i < rows.length; i++) {
+            copy[i] = rows[i].clone();
+        }
+        return copy;
     }
 
     // ---- linear algebra
