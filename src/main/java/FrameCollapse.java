@@ -845,11 +845,11 @@ public final class FrameCollapse {
          * no mechanism is found twice.
          */
         private void search(int end, int start, int size, int twisting) {
-            if (size == 1) {
-                keep(motions.rows[start]);
+            if (size > end + 2 || size < 1 || start + 2 * size - 1 > Motions.ROWS) {
                 return;
             }
-            if (size > end + 2 || size < 1 || start + 2 * size - 1 > Motions.ROWS) {
+            if (size == 1) {
+                keep(motions.rows[start]);
                 return;
             }
             int pivot = motions.rowWith(end, start, size);
