@@ -1051,8 +1051,9 @@ public final class BoundaryTest {
                 frame.node(0, 2, 2);
                 frame.bar(2, 0, 9);
                 frame.hold(0, times);
-                frame.load(0, 0, -1, -2);
-                frame.load(1, 2, 5, 5);
+                for (int load = 0; load < 9; load++) {
+                    frame.load(load % 3, load / 3, -1 - times, times - 5);
+                }
                 frame.strengthen(0, 12);
                 frame.lift(0);
                 due("restore", frame.restore(k), 1);
