@@ -928,8 +928,10 @@ public final class FrameCollapse {
     }
 
     /**
-     * Weighs the works of the cases against the strains of the mechanisms. Works and strains stay below 2^32, so that
-     * the products of two of them that follow fit into a long.
+     * Weighs the works of the cases against the strains of the mechanisms. By the bounds told at Motions, works stay
+     * below 2^29 (14 loads of at most 5, shifts of at most 12 * 2^19), and strains below 2^32 (12 ends, twists below
+     * 20,000,000, strengths of at most 13). A limit factor is at most a strain and a work, over a work. So the greatest
+     * sum that arises, in findMoments, stays below 2^29 * (2^29 + 2^32 + 2^29 + 2^32) and fits into a long.
      */
     private static final class Balance {
         private final Mechanisms mechanisms;
